@@ -2,7 +2,7 @@
  * Arithmetic units made of gates.
  *
  * A bundle of wires is an int, one wire a bit. Inside the units a value passes through the gates
- * &amp;, |, ^ and ~ and through wiring (shifts by a fixed number of places) alone; + and - only
+ * {@code & | ^ ~} and through wiring (shifts by a fixed number of places) alone; + and - only
  * count loops and places.
  */
 public final class DatapathGates {
